@@ -767,46 +767,42 @@ public final class ModularGains {
                 return;
             }
             count = 0;
-            findFirst();
+            scan();
             keep(0, 1);
-            findNext();
+            scan();
             for (int i = 1; found && i < ALL_PARTITIONS; i++) {
                 keep(lastA - foundA, lastB - foundB);
-                findNext();
+                scan();
             }
             known = true;
         }
 
-        private void findFirst() {
+        private void scan() {
             found = false;
             walk.start();
             boolean more = true;
             for (int seen = 0; more && seen < ALL_PARTITIONS; seen++) {
                 long a = walk.a();
                 long b = walk.b();
-                if (!found || a > foundA || (a == foundA && b < foundB)) {
+                if (count == 0 ? standsHigher(a, b) : comesSooner(a, b)) {
                     note(a, b);
                 }
                 more = walk.step();
             }
         }
 
-        private void findNext() {
-            found = false;
-            walk.start();
-            boolean more = true;
-            for (int seen = 0; more && seen < ALL_PARTITIONS; seen++) {
-                long a = walk.a();
-                long b = walk.b();
-                if (b < lastB && (!found || comesSooner(a, b))) {
-                    note(a, b);
-                }
-                more = walk.step();
-            }
+        private boolean standsHigher(long a, long b) {
+            return !found || a > foundA || (a == foundA && b < foundB);
         }
 
         /** Multiplied crosswise: both numbers below the lines are above 0. */
         private boolean comesSooner(long a, long b) {
+            if (b >= lastB) {
+                return false;
+            }
+            if (!found) {
+                return true;
+            }
             long mine = (lastA - a) * (lastB - foundB);
             long its = (lastA - foundA) * (lastB - b);
             return mine < its || (mine == its && b < foundB);

@@ -208,12 +208,14 @@ public final class PromisesTest {
         ModularGains x = row(1, 2);
         x.manner(1);
         x.resolution(3, 2);
-        x.put(0, 1);
+        x.put(0, 2);
         due("7: clear()", x.clear(), 3);
         due("7: again", x.clear(), 0);
         due("7: no nodes", x.group(0), -1);
         due("7: no arcs", x.drop(0), -1);
         due("7: value()", x.value(), 0);
+        due("7: joined()", x.joined(), 1);
+        due("7: rests()", x.rests(), 1);
         due("7: best()", x.best(), 0);
         due("7: nodes from 0", x.node(), 0);
         x.node();
@@ -387,6 +389,14 @@ public final class PromisesTest {
         due("14: no move helps", x.move(0, 2), -8);
         due("14: a merge helps", x.merge(0, 2), 2);
         due("14: a merge helps", x.rests(), 0);
+        x.drop(3);
+        x.put(0, 1);
+        x.put(2, 3);
+        due("14: a merge helps by 1", x.rests(), 0);
+        x.drop(2);
+        x.put(0, 1);
+        x.put(2, 3);
+        due("14: no merge helps", x.rests(), 1);
     }
 
     private void joined() {
