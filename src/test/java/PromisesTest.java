@@ -558,16 +558,18 @@ public final class PromisesTest {
     /** By seed 0 the nodes of the first row stand in the order 2 0 1 3, by seed 1 in the order 0 3 1 2. */
     private void labelsByOrders() {
         String[] four = {"0000", "0011", "0011", "0000", "0011", "0000", "0011", "0000"};
+        ModularGains rowOfFour = row(1, 1, 1);
         for (int seed = 0; seed < four.length; seed++) {
-            dueLabels(row(1, 1, 1), seed, four[seed]);
+            dueLabels(rowOfFour, seed, four[seed]);
         }
         String[] six = {"000011", "000011", "001122", "000111", "000111", "000011", "000011", "000111"};
+        ModularGains rowOfSix = row(1, 1, 1, 1, 1);
         for (int seed = 0; seed < six.length; seed++) {
-            dueLabels(row(1, 1, 1, 1, 1), seed, six[seed]);
+            dueLabels(rowOfSix, seed, six[seed]);
         }
-        dueLabels(row(1, 1, 1, 1, 1), -1, "000111");
-        dueLabels(row(1, 1, 1, 1, 1), LEAST, "000011");
-        dueLabels(row(1, 1, 1, 1, 1), MOST, "001111");
+        dueLabels(rowOfSix, -1, "000111");
+        dueLabels(rowOfSix, LEAST, "000011");
+        dueLabels(rowOfSix, MOST, "001111");
     }
 
     private void dueLabels(ModularGains x, int seed, String groups) {
