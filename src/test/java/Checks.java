@@ -1,13 +1,19 @@
 /** Counts answers that are not the ones due, and ends the program by that count. */
 final class Checks {
+    private String sentence = "";
     private int made;
     private int wrong;
+
+    /** The sentence of the document that the checks from here on hold the class to. */
+    void about(String words) {
+        sentence = "'" + words + "': ";
+    }
 
     void due(String call, long got, long want) {
         made++;
         if (got != want) {
             wrong++;
-            System.out.println(call + " answered " + got + ", due is " + want);
+            System.out.println(sentence + call + " answered " + got + ", due is " + want);
         }
     }
 
@@ -15,8 +21,16 @@ final class Checks {
         made++;
         if (!so) {
             wrong++;
-            System.out.println("does not hold: " + what);
+            System.out.println("does not hold: " + sentence + what);
         }
+    }
+
+    /** The groups of all nodes as digits: nodes in the groups 0, 0, 1 give "001". */
+    void dueGroups(String call, ModularGains x, String want) {
+        for (int i = 0; i < want.length(); i++) {
+            due(call + ": group(" + i + ")", x.group(i), want.charAt(i) - '0');
+        }
+        due(call + ": one node more", x.group(want.length()), -1);
     }
 
     int wrong() {

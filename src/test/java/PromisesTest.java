@@ -42,41 +42,8 @@ public final class PromisesTest {
         checks.due(call, got, want);
     }
 
-    /** The groups of all nodes as digits: nodes in the groups 0, 0, 1 give "001". */
     private void dueGroups(String call, ModularGains x, String want) {
-        for (int i = 0; i < want.length(); i++) {
-            due(call + ": group(" + i + ")", x.group(i), want.charAt(i) - '0');
-        }
-        due(call + ": one node more", x.group(want.length()), -1);
-    }
-
-    private static ModularGains withNodes(int count) {
-        ModularGains x = new ModularGains();
-        for (int i = 0; i < count; i++) {
-            x.node();
-        }
-        return x;
-    }
-
-    /** Nodes in a row, each joined with the next by an arc of the weight at its place. */
-    private static ModularGains row(int... weights) {
-        ModularGains x = withNodes(weights.length + 1);
-        for (int i = 0; i < weights.length; i++) {
-            x.arc(i, i + 1, weights[i]);
-        }
-        return x;
-    }
-
-    private static ModularGains twoTriangles() {
-        ModularGains x = withNodes(6);
-        x.arc(0, 1, 3);
-        x.arc(1, 2, 3);
-        x.arc(0, 2, 3);
-        x.arc(3, 4, 3);
-        x.arc(4, 5, 3);
-        x.arc(3, 5, 3);
-        x.arc(2, 3, 1);
-        return x;
+        checks.dueGroups(call, x, want);
     }
 
     private void newObject() {
@@ -95,7 +62,7 @@ public final class PromisesTest {
     }
 
     private void manner() {
-        ModularGains x = row(2, -5);
+        ModularGains x = Graphs.row(2, -5);
         x.put(1, 2);
         due("2: manner(2)", x.manner(2), -2);
         due("2: manner(-1)", x.manner(-1), -2);
@@ -112,7 +79,7 @@ public final class PromisesTest {
     }
 
     private void resolution() {
-        ModularGains x = row(3);
+        ModularGains x = Graphs.row(3);
         due("3: resolution(2, 5)", x.resolution(2, 5), 1);
         due("3: value at 2 / 5", x.value(), -36);
         due("3: x below", x.resolution(-1, 1), -2);
@@ -145,7 +112,7 @@ public final class PromisesTest {
     }
 
     private void arc() {
-        ModularGains x = withNodes(3);
+        ModularGains x = Graphs.withNodes(3);
         due("5: least weight", x.arc(0, 1, -50), 0);
         due("5: greatest weight", x.arc(0, 1, 50), 1);
         due("5: the other way", x.arc(1, 0, 1), 2);
@@ -168,7 +135,7 @@ public final class PromisesTest {
     }
 
     private void arcRoom() {
-        ModularGains x = withNodes(2);
+        ModularGains x = Graphs.withNodes(2);
         for (int i = 0; i < 36; i++) {
             due("5: arc", x.arc(0, 1, 50), i);
         }
@@ -184,7 +151,7 @@ public final class PromisesTest {
     }
 
     private void drop() {
-        ModularGains x = row(1, 2, 3);
+        ModularGains x = Graphs.row(1, 2, 3);
         x.put(0, 1);
         due("6: none yet", x.drop(3), -1);
         due("6: below", x.drop(-1), -1);
@@ -205,7 +172,7 @@ public final class PromisesTest {
     }
 
     private void clear() {
-        ModularGains x = row(1, 2);
+        ModularGains x = Graphs.row(1, 2);
         x.manner(1);
         x.resolution(3, 2);
         x.put(0, 2);
@@ -229,7 +196,7 @@ public final class PromisesTest {
     }
 
     private void put() {
-        ModularGains x = withNodes(4);
+        ModularGains x = Graphs.withNodes(4);
         due("8: put(3, 1)", x.put(3, 1), 3);
         dueGroups("8: put(3, 1)", x, "0121");
         due("8: put(1, 0)", x.put(1, 0), 3);
@@ -248,14 +215,14 @@ public final class PromisesTest {
         due("8: below", x.put(-1, -1), -1);
         due("8: beyond", x.put(MOST, LEAST), -1);
         dueGroups("8: refused ones change nothing", x, "0111");
-        ModularGains full = withNodes(9);
+        ModularGains full = Graphs.withNodes(9);
         due("8: alone among nine", full.put(8, 8), 9);
         due("8: alone among nine", full.put(0, 0), 9);
         dueGroups("8: alone among nine", full, "012345678");
     }
 
     private void group() {
-        ModularGains x = withNodes(3);
+        ModularGains x = Graphs.withNodes(3);
         due("9: group(2)", x.group(2), 2);
         x.put(2, 0);
         due("9: group(0)", x.group(0), 0);
@@ -268,7 +235,7 @@ public final class PromisesTest {
     }
 
     private void value() {
-        ModularGains x = row(1, -2, 3);
+        ModularGains x = Graphs.row(1, -2, 3);
         x.resolution(3, 2);
         due("10: alone", x.value(), -3 * (1 + 1 + 9 + 9));
         x.put(1, 0);
@@ -281,7 +248,7 @@ public final class PromisesTest {
         due("10: one group, by numbers", x.value(), 2 * 2 - 3 * 6);
         x.put(0, 0);
         due("10: 0 111, by numbers", x.value(), 2 * 1 - 3 * 3);
-        ModularGains most = withNodes(2);
+        ModularGains most = Graphs.withNodes(2);
         for (int i = 0; i < 36; i++) {
             most.arc(0, 1, 50);
         }
@@ -293,7 +260,7 @@ public final class PromisesTest {
     }
 
     private void part() {
-        ModularGains x = row(1, -2, 3);
+        ModularGains x = Graphs.row(1, -2, 3);
         due("11: alone, A", x.part(0), 0);
         due("11: alone, B", x.part(1), 20);
         x.put(1, 2);
@@ -314,7 +281,7 @@ public final class PromisesTest {
     }
 
     private void move() {
-        ModularGains x = twoTriangles();
+        ModularGains x = Graphs.twoTriangles();
         x.best();
         due("12: move(2, 3)", x.move(2, 3), -478);
         dueGroups("12: nothing changes", x, "000111");
@@ -329,14 +296,14 @@ public final class PromisesTest {
         due("12: no such other", x.move(0, 6), 0);
         due("12: below", x.move(-1, 0), 0);
         due("12: beyond", x.move(MOST, LEAST), 0);
-        ModularGains y = row(4);
+        ModularGains y = Graphs.row(4);
         y.manner(1);
         y.resolution(1, 2);
         due("12: manner 1", y.move(0, 1), 2 * 4 - 1);
     }
 
     private void merge() {
-        ModularGains x = twoTriangles();
+        ModularGains x = Graphs.twoTriangles();
         x.best();
         due("13: merge(0, 5)", x.merge(0, 5), -646);
         due("13: merge(4, 1)", x.merge(4, 1), -646);
@@ -346,7 +313,7 @@ public final class PromisesTest {
         due("13: no such node", x.merge(6, 0), 0);
         due("13: no such other", x.merge(0, -1), 0);
         due("13: beyond", x.merge(LEAST, MOST), 0);
-        ModularGains y = row(4, -1, 2);
+        ModularGains y = Graphs.row(4, -1, 2);
         y.manner(1);
         y.resolution(1, 3);
         y.put(0, 1);
@@ -356,14 +323,14 @@ public final class PromisesTest {
 
     private void rests() {
         due("14: no nodes", new ModularGains().rests(), 1);
-        due("14: no arcs", withNodes(3).rests(), 1);
-        ModularGains x = twoTriangles();
+        due("14: no arcs", Graphs.withNodes(3).rests(), 1);
+        ModularGains x = Graphs.twoTriangles();
         due("14: alone", x.rests(), 0);
         x.best();
         due("14: best", x.rests(), 1);
         x.put(2, 3);
         due("14: a move helps", x.rests(), 0);
-        ModularGains pulled = row(-1);
+        ModularGains pulled = Graphs.row(-1);
         pulled.manner(1);
         due("14: apart", pulled.rests(), 1);
         pulled.put(0, 1);
@@ -377,7 +344,7 @@ public final class PromisesTest {
 
     /** Two pairs, each hard to leave, whose merge alone helps. */
     private void restsByMerge() {
-        ModularGains x = withNodes(4);
+        ModularGains x = Graphs.withNodes(4);
         x.manner(1);
         x.resolution(0, 1);
         x.arc(0, 1, 9);
@@ -401,7 +368,7 @@ public final class PromisesTest {
 
     private void joined() {
         due("15: no nodes", new ModularGains().joined(), 1);
-        ModularGains x = row(1, 1, -1);
+        ModularGains x = Graphs.row(1, 1, -1);
         due("15: alone", x.joined(), 1);
         x.put(0, 2);
         due("15: by a node outside", x.joined(), 0);
@@ -411,13 +378,13 @@ public final class PromisesTest {
         due("15: by an arc that does not count", x.joined(), 0);
         x.manner(1);
         due("15: by an arc below 0", x.joined(), 1);
-        ModularGains sum = withNodes(2);
+        ModularGains sum = Graphs.withNodes(2);
         sum.manner(1);
         sum.arc(0, 1, 5);
         sum.arc(0, 1, -5);
         sum.put(0, 1);
         due("15: by arcs that add up to 0", sum.joined(), 1);
-        ModularGains back = withNodes(9);
+        ModularGains back = Graphs.withNodes(9);
         for (int i = 0; i < 8; i++) {
             back.arc((i * 4) % 9, (i * 4 + 4) % 9, 1);
         }
@@ -425,7 +392,7 @@ public final class PromisesTest {
             back.put(i, 0);
         }
         due("15: a long way round", back.joined(), 1);
-        ModularGains last = row(1);
+        ModularGains last = Graphs.row(1);
         last.node();
         last.node();
         last.put(2, 3);
@@ -434,7 +401,7 @@ public final class PromisesTest {
 
     private void best() {
         due("16: no nodes", new ModularGains().best(), 0);
-        ModularGains x = twoTriangles();
+        ModularGains x = Graphs.twoTriangles();
         due("16: best()", x.best(), 2);
         dueGroups("16: best()", x, "000111");
         x.resolution(1000, 1);
@@ -442,13 +409,13 @@ public final class PromisesTest {
         x.resolution(0, 1);
         due("16: at 0", x.best(), 1);
         dueGroups("16: at 0", x, "000000");
-        ModularGains tied = row(1, 1);
+        ModularGains tied = Graphs.row(1, 1);
         tied.manner(1);
         due("16: of several", tied.best(), 1 + 1);
         dueGroups("16: the first of several", tied, "001");
-        ModularGains none = withNodes(9);
+        ModularGains none = Graphs.withNodes(9);
         due("16: all alike", none.best(), 1);
-        ModularGains far = withNodes(9);
+        ModularGains far = Graphs.withNodes(9);
         far.manner(1);
         far.resolution(1, 100);
         far.arc(0, 8, 1);
@@ -458,9 +425,9 @@ public final class PromisesTest {
 
     private void ties() {
         due("17: no nodes", new ModularGains().ties(), 1);
-        due("17: all of nine nodes", withNodes(9).ties(), 21147);
-        due("17: all of four nodes", withNodes(4).ties(), 15);
-        ModularGains x = row(1, 1);
+        due("17: all of nine nodes", Graphs.withNodes(9).ties(), 21147);
+        due("17: all of four nodes", Graphs.withNodes(4).ties(), 15);
+        ModularGains x = Graphs.row(1, 1);
         x.manner(1);
         x.put(0, 2);
         due("17: three", x.ties(), 3);
@@ -470,7 +437,7 @@ public final class PromisesTest {
         x.drop(0);
         x.drop(1);
         due("17: at 0 without arcs", x.ties(), 5);
-        due("17: one that is best", twoTriangles().ties(), 1);
+        due("17: one that is best", Graphs.twoTriangles().ties(), 1);
     }
 
     private void merged() {
@@ -478,7 +445,7 @@ public final class PromisesTest {
         due("18: no nodes", none.merged(0), 0);
         due("18: no nodes, once", none.merged(1), -2);
         due("18: no nodes, below", none.merged(-1), -2);
-        ModularGains x = twoTriangles();
+        ModularGains x = Graphs.twoTriangles();
         x.put(0, 5);
         due("18: below", x.merged(-1), -2);
         due("18: not below the nodes", x.merged(6), -2);
@@ -496,10 +463,10 @@ public final class PromisesTest {
         due("18: merged(4)", x.merged(4), 2);
         dueGroups("18: merged(4)", x, "000111");
         due("18: merged(5)", x.merged(5), 1);
-        ModularGains plain = withNodes(4);
+        ModularGains plain = Graphs.withNodes(4);
         plain.merged(2);
         dueGroups("18: all alike", plain, "0001");
-        ModularGains late = row(1, 2, 5);
+        ModularGains late = Graphs.row(1, 2, 5);
         late.manner(1);
         late.merged(1);
         dueGroups("18: the greatest", late, "0122");
@@ -509,8 +476,8 @@ public final class PromisesTest {
 
     private void mergedBest() {
         due("19: no nodes", new ModularGains().mergedBest(), 0);
-        due("19: the fewest of several", withNodes(5).mergedBest(), 0);
-        ModularGains x = twoTriangles();
+        due("19: the fewest of several", Graphs.withNodes(5).mergedBest(), 0);
+        ModularGains x = Graphs.twoTriangles();
         x.put(0, 5);
         due("19: mergedBest()", x.mergedBest(), 4);
         dueGroups("19: nothing changes", x, "012340");
@@ -518,7 +485,7 @@ public final class PromisesTest {
         due("19: at 0", x.mergedBest(), 5);
         x.resolution(1000, 1);
         due("19: at a high one", x.mergedBest(), 0);
-        ModularGains through = withNodes(4);
+        ModularGains through = Graphs.withNodes(4);
         through.manner(1);
         through.arc(0, 1, 1);
         through.arc(1, 2, 1);
@@ -528,26 +495,26 @@ public final class PromisesTest {
 
     private void labels() {
         due("20: no nodes", new ModularGains().labels(3), 1);
-        ModularGains alone = withNodes(3);
+        ModularGains alone = Graphs.withNodes(3);
         alone.put(0, 1);
         due("20: no arcs", alone.labels(LEAST), 1);
         dueGroups("20: no arcs", alone, "012");
-        ModularGains pair = row(1);
+        ModularGains pair = Graphs.row(1);
         due("20: a pair", pair.labels(0), 2);
         dueGroups("20: a pair", pair, "00");
-        ModularGains apart = row(-3);
+        ModularGains apart = Graphs.row(-3);
         due("20: an arc that does not count", apart.labels(0), 1);
         dueGroups("20: an arc that does not count", apart, "01");
         apart.manner(1);
         due("20: the only one, below 0", apart.labels(0), 2);
         dueGroups("20: the only one, below 0", apart, "00");
-        ModularGains zero = withNodes(2);
+        ModularGains zero = Graphs.withNodes(2);
         zero.manner(1);
         zero.arc(0, 1, 4);
         zero.arc(0, 1, -4);
         due("20: arcs that add up to 0", zero.labels(0), 2);
         dueGroups("20: arcs that add up to 0", zero, "00");
-        ModularGains x = twoTriangles();
+        ModularGains x = Graphs.twoTriangles();
         due("20: triangles", x.labels(1), 2);
         dueGroups("20: triangles", x, "000111");
         x.resolution(1000, 1);
@@ -558,12 +525,12 @@ public final class PromisesTest {
     /** By seed 0 the nodes of the first row stand in the order 2 0 1 3, by seed 1 in the order 0 3 1 2. */
     private void labelsByOrders() {
         String[] four = {"0000", "0011", "0011", "0000", "0011", "0000", "0011", "0000"};
-        ModularGains rowOfFour = row(1, 1, 1);
+        ModularGains rowOfFour = Graphs.row(1, 1, 1);
         for (int seed = 0; seed < four.length; seed++) {
             dueLabels(rowOfFour, seed, four[seed]);
         }
         String[] six = {"000011", "000011", "001122", "000111", "000111", "000011", "000011", "000111"};
-        ModularGains rowOfSix = row(1, 1, 1, 1, 1);
+        ModularGains rowOfSix = Graphs.row(1, 1, 1, 1, 1);
         for (int seed = 0; seed < six.length; seed++) {
             dueLabels(rowOfSix, seed, six[seed]);
         }
@@ -578,7 +545,7 @@ public final class PromisesTest {
     }
 
     private void labelsAtLast() {
-        ModularGains x = withNodes(7);
+        ModularGains x = Graphs.withNodes(7);
         x.manner(1);
         x.arc(2, 4, -1);
         x.arc(4, 6, 3);
@@ -589,7 +556,7 @@ public final class PromisesTest {
     }
 
     private void together() {
-        ModularGains x = twoTriangles();
+        ModularGains x = Graphs.twoTriangles();
         x.put(0, 5);
         due("21: of one triangle", x.together(0, 1), 20);
         due("21: of two", x.together(2, 3), 0);
@@ -600,7 +567,7 @@ public final class PromisesTest {
         due("21: below", x.together(-1, 0), -1);
         due("21: beyond", x.together(MOST, LEAST), -1);
         due("21: no nodes", new ModularGains().together(0, 0), -1);
-        ModularGains path = row(1, 1, 1);
+        ModularGains path = Graphs.row(1, 1, 1);
         int often = 0;
         for (int seed = 0; seed < 20; seed++) {
             path.labels(seed);
@@ -613,8 +580,8 @@ public final class PromisesTest {
 
     private void plateaus() {
         due("22: no nodes", new ModularGains().plateaus(), 1);
-        due("22: no arcs", withNodes(9).plateaus(), 1);
-        ModularGains x = row(3);
+        due("22: no arcs", Graphs.withNodes(9).plateaus(), 1);
+        ModularGains x = Graphs.row(3);
         due("22: a pair", x.plateaus(), 2);
         x.manner(1);
         due("22: a pair, by numbers", x.plateaus(), 2);
@@ -624,13 +591,13 @@ public final class PromisesTest {
         due("22: a pair, one arc counting", x.plateaus(), 2);
         x.drop(0);
         due("22: a pair, none counting", x.plateaus(), 1);
-        ModularGains two = twoTriangles();
+        ModularGains two = Graphs.twoTriangles();
         two.put(0, 5);
         due("22: triangles", two.plateaus(), 4);
         two.resolution(900, 1);
         due("22: at any resolution", two.plateaus(), 4);
         dueGroups("22: nothing changes", two, "012340");
-        ModularGains even = row(2, -9, 2);
+        ModularGains even = Graphs.row(2, -9, 2);
         even.manner(1);
         due("22: ones on the way are passed over", even.plateaus(), 2);
         even.node();
@@ -641,7 +608,7 @@ public final class PromisesTest {
 
     /** More of them than the class has room for at first. */
     private void manyPlateaus() {
-        ModularGains x = withNodes(9);
+        ModularGains x = Graphs.withNodes(9);
         SlowModel model = new SlowModel();
         for (int i = 0; i < 9; i++) {
             model.node();
@@ -665,7 +632,7 @@ public final class PromisesTest {
     }
 
     private void begins() {
-        ModularGains x = twoTriangles();
+        ModularGains x = Graphs.twoTriangles();
         x.put(0, 5);
         due("23: begins(0, 0)", x.begins(0, 0), 0);
         due("23: begins(0, 1)", x.begins(0, 1), 1);
@@ -683,7 +650,7 @@ public final class PromisesTest {
         due("23: part below", x.begins(0, -1), -2);
         due("23: places before parts", x.begins(4, 2), -1);
         dueGroups("23: nothing changes", x, "012340");
-        ModularGains y = row(6);
+        ModularGains y = Graphs.row(6);
         y.manner(1);
         due("23: by numbers, above", y.begins(1, 0), 6);
         due("23: by numbers, below", y.begins(1, 1), 1);
@@ -699,7 +666,7 @@ public final class PromisesTest {
         ModularGains none = new ModularGains();
         due("24: no nodes", none.plateau(0), 0);
         due("24: no nodes, no second", none.plateau(1), -1);
-        ModularGains x = twoTriangles();
+        ModularGains x = Graphs.twoTriangles();
         due("24: plateau(0)", x.plateau(0), 1);
         dueGroups("24: plateau(0)", x, "000000");
         due("24: plateau(1)", x.plateau(1), 2);
@@ -711,10 +678,10 @@ public final class PromisesTest {
         due("24: beyond", x.plateau(MOST), -1);
         dueGroups("24: refused ones change nothing", x, "001233");
         due("24: plateau(3)", x.plateau(3), 6);
-        ModularGains alike = withNodes(3);
+        ModularGains alike = Graphs.withNodes(3);
         due("24: the first of all alike", alike.plateau(0), 1);
         dueGroups("24: the first of all alike", alike, "000");
-        ModularGains parted = row(4);
+        ModularGains parted = Graphs.row(4);
         parted.node();
         due("24: of one A the least B, else the first", parted.plateau(0), 1);
         dueGroups("24: of one A the least B, else the first", parted, "000");
