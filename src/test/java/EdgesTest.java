@@ -417,6 +417,9 @@ public final class EdgesTest {
         due("plateau(-1)", x.plateau(-1), -1);
         dueGroups("as it was", x, "012");
         due("plateau(0), the first", x.plateau(0), 1);
+        due("plateau(3), before another call asked for one", Graphs.twoTriangles().plateau(3), 6);
+        due("plateau(4), before another call asked for one", Graphs.twoTriangles().plateau(4), -1);
+        due("begins(3, 0), before another call asked for one", Graphs.twoTriangles().begins(3, 0), 19);
 
         checks.about("as the RESOLUTION rises from 0 on");
         x.resolution(1000, 1);
@@ -427,6 +430,12 @@ public final class EdgesTest {
         due("begins(1, 1) in the other manner", x.begins(1, 1), 2);
         x.drop(2);
         due("plateaus() behind a drop", x.plateaus(), 3);
+        due("a lighter arc for it", x.arc(0, 2, 1), 3);
+        due("begins(1, 0) behind an arc", x.begins(1, 0), 10);
+        due("begins(1, 1) behind an arc", x.begins(1, 1), 7);
+        x.node();
+        due("plateau() of the last, behind a node", x.plateau(x.plateaus() - 1), 3);
+        dueGroups("the new node has nothing, and goes where it comes first", x, "0120");
         x.clear();
         due("plateaus() behind clear()", x.plateaus(), 1);
     }

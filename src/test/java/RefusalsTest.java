@@ -33,10 +33,11 @@ public final class RefusalsTest {
         tests.plateaus();
         tests.firstThatFits();
         tests.askedInVain();
+        tests.asked();
         tests.checks.end();
     }
 
-    /** Some of everything: an arc dropped, a manner, a resolution and a partition that are not those of the beginning. */
+    /** Some of everything: an arc dropped; manner, resolution and partition not those of the beginning. */
     private static ModularGains inUse() {
         ModularGains x = Graphs.row(3, -2, 5, 1);
         x.drop(3);
@@ -211,6 +212,31 @@ public final class RefusalsTest {
         checks.about("0 for others");
         for (int what : new int[] {LEAST, -1, 2, MOST}) {
             refused("part(" + what + ")", 0, x -> x.part(what));
+        }
+    }
+
+    /** Neither does what only asks. */
+    private void asked() {
+        checks.about("Nothing is promised beyond the answers and state changes described above");
+        asks("group(0)", x -> x.group(0));
+        asks("value()", ModularGains::value);
+        asks("part(0)", x -> x.part(0));
+        asks("part(1)", x -> x.part(1));
+        asks("move(0, 1)", x -> x.move(0, 1));
+        asks("move(0, 0)", x -> x.move(0, 0));
+        asks("merge(0, 2)", x -> x.merge(0, 2));
+        asks("rests()", ModularGains::rests);
+        asks("joined()", ModularGains::joined);
+        asks("ties()", ModularGains::ties);
+        asks("mergedBest()", ModularGains::mergedBest);
+        asks("together(0, 1)", x -> x.together(0, 1));
+        asks("plateaus()", ModularGains::plateaus);
+        asks("begins(0, 1)", x -> x.begins(0, 1));
+    }
+
+    private void asks(String call, ToLongFunction<ModularGains> made) {
+        for (String state : states.keySet()) {
+            refusedIn(state, call, made.applyAsLong(states.get(state).get()), made);
         }
     }
 }

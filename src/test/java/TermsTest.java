@@ -350,6 +350,8 @@ public final class TermsTest {
         one.resolution(99, 100);
         due("greater together by 1", one.rests(), 0);
         due("one node", Graphs.withNodes(1).rests(), 1);
+        due("nine nodes, all as great", Graphs.withNodes(9).rests(), 1);
+        restsByOneMove();
 
         ModularGains pairs = Graphs.inManner(1, Graphs.withNodes(4));
         pairs.resolution(0, 1);
@@ -359,6 +361,27 @@ public final class TermsTest {
         pairs.arc(0, 3, -1);
         Graphs.inGroups("0011", pairs);
         due("the merge makes it as great", pairs.rests(), 1);
+    }
+
+    /** One move alone helps, by the first node or by the last, to be alone or to go to one of them. */
+    private void restsByOneMove() {
+        int[][] away = {{0, 1, -5}, {1, 2, 9}};
+        due("the first makes itself alone", atNought("000", away).rests(), 0);
+        int[][] lastAway = {{0, 1, 9}, {1, 2, -5}};
+        due("the last makes itself alone", atNought("000", lastAway).rests(), 0);
+        int[][] toFirst = {{0, 1, 9}, {1, 2, 1}, {0, 2, -50}};
+        due("one goes to the first", atNought("011", toFirst).rests(), 0);
+        int[][] toLast = {{2, 1, 9}, {1, 0, 1}, {0, 2, -50}};
+        due("one goes to the last", atNought("001", toLast).rests(), 0);
+        int[][] neither = {{0, 1, 9}, {1, 2, 9}, {0, 2, -50}};
+        due("as great at both", atNought("011", neither).rests(), 1);
+        due("as great at both", atNought("001", neither).rests(), 1);
+    }
+
+    private static ModularGains atNought(String groups, int[][] arcs) {
+        ModularGains x = Graphs.inManner(1, Graphs.withArcs(Graphs.withNodes(groups.length()), arcs));
+        x.resolution(0, 1);
+        return Graphs.inGroups(groups, x);
     }
 
     // ---- merging
